@@ -266,10 +266,6 @@ public final class SeatShares {
         for (int i = 0; i < listCount; i++) {
             given[i] = 0;
         }
-        int all = sumOf(ballots);
-        if (all <= 0 || n <= 0) {
-            return;
-        }
         if (isQuotientRule(rule)) {
             shareByQuotients(rule, ballots, n, given);
         } else {
@@ -289,13 +285,14 @@ public final class SeatShares {
 
     private int greatestQuotient(int rule, int[] ballots, int[] taken) {
         int best = NONE;
+        // Every list with votes is above 0 / 1, so the first one of them is taken up.
         long bestTop = 0;
         long bestBottom = 1;
         for (int i = 0; i < listCount; i++) {
             if (ballots[i] > 0) {
                 long top = dividend(rule, ballots[i]);
                 long bottom = divisor(rule, taken[i]);
-                if (best == NONE || isGreater(top, bottom, bestTop, bestBottom)) {
+                if (isGreater(top, bottom, bestTop, bestBottom)) {
                     best = i;
                     bestTop = top;
                     bestBottom = bottom;
@@ -335,12 +332,12 @@ public final class SeatShares {
 
     private void shareByQuota(int rule, int[] ballots, int n, int[] given) {
         int all = sumOf(ballots);
+        if (all <= 0 || n <= 0) {
+            return;
+        }
         // The quota of rule 5 is a fraction: with votes counted in n-th parts it is the whole number of all votes.
         int scale = rule == 5 ? n : 1;
         int quota = rule == 5 ? all : all / (n + 1) + 1;
-        if (quota <= 0) {
-            return;
-        }
         for (int i = 0; i < listCount; i++) {
             given[i] = ballots[i] * scale / quota;
             rests[i] = ballots[i] * scale % quota;

@@ -312,15 +312,15 @@ public final class ModelTest {
             if (above || otherAbove) {
                 return above ? 1 : -1;
             }
-            long[] d = new long[2];
-            for (int side = 0; side < 2; side++) {
-                long n = side == 0 ? k : l;
-                long[] all = {n + 1, 2 * n + 1, n == 0 ? 7 : 10 * n + 5, n * (n + 1), n};
-                d[side] = all[rule];
-            }
             long a = rule == 3 ? v * v : v;
             long b = rule == 3 ? w * w : w;
-            return Long.compare(a * d[1], b * d[0]);
+            return Long.compare(a * divisor(rule, l), b * divisor(rule, k));
+        }
+
+        private static long divisor(int rule, long k) {
+            long squares = rule == 3 ? k * (k + 1) : k;
+            long odd = rule == 2 ? (k == 0 ? 7 : 10 * k + 5) : 2 * k + 1;
+            return rule == 0 ? k + 1 : rule <= 2 ? odd : squares;
         }
 
         private static int[] shareByQuota(int rule, int[] votes, int seats) {

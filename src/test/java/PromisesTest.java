@@ -386,6 +386,14 @@ public final class PromisesTest {
                 due("11: missing(" + rule + ", " + i + ")", x.missing(rule, i), want[rule][i]);
             }
         }
+        int[][] wantOfSix = {{34, 174, 27, 34, 79, 82}, {80, 20, 20, 145, 46, 49}, {52, 197, 9, 19, 64, 67},
+            {NONE, 61, 181, 281, 326, 329}, {NONE, 61, 181, 281, 326, 329}};
+        SeatShares six = with(7, 340, 280, 160, 60, 15, 12);
+        for (int rule = 0; rule <= 4; rule++) {
+            for (int i = 0; i < 6; i++) {
+                due("11: six lists: missing(" + rule + ", " + i + ")", six.missing(rule, i), wantOfSix[rule][i]);
+            }
+        }
         // The second quotient of one list has to reach the first one of the other: 2997 / 3 and 999 / 1.
         due("11: 2000 votes more", with(2, 997, 999).missing(1, 0), 2000);
         due("11: 2001 votes more", with(2, 996, 999).missing(1, 0), NONE);
@@ -419,6 +427,14 @@ public final class PromisesTest {
                 due("12: spare(" + rule + ", " + i + ")", x.spare(rule, i), want[rule][i]);
             }
         }
+        int[][] wantOfSix = {{100, 24, 74, 60, 15, 12}, {60, 120, 103, 3, 15, 12}, {73, 13, 91, 60, 15, 12},
+            {60, 279, 159, 59, 14, 11}, {60, 279, 159, 59, 14, 11}};
+        SeatShares six = with(7, 340, 280, 160, 60, 15, 12);
+        for (int rule = 0; rule <= 4; rule++) {
+            for (int i = 0; i < 6; i++) {
+                due("12: six lists: spare(" + rule + ", " + i + ")", six.spare(rule, i), wantOfSix[rule][i]);
+            }
+        }
         for (int rule = 0; rule <= 4; rule++) {
             due("12: equal keeps the lesser number, rule " + rule, with(1, 20, 10).spare(rule, 0), 10);
             due("12: equal loses the greater number, rule " + rule, with(1, 10, 20).spare(rule, 1), 9);
@@ -447,6 +463,8 @@ public final class PromisesTest {
         due("13: from 11 seats", with(11, 6, 6, 2).fall(5), 17);
         due("13: from 24 seats", with(24, 6, 6, 2).fall(5), 24);
         due("13: from 25 seats", with(25, 6, 6, 2).fall(5), NONE);
+        due("13: six lists, rule 5", with(7, 340, 280, 160, 60, 15, 12).fall(5), 16);
+        due("13: six lists, rule 6", with(7, 340, 280, 160, 60, 15, 12).fall(6), 13);
         due("13: rule 6", with(10, 6, 6, 2).fall(6), 13);
         due("13: 29 seats, rule 5", with(28, 9, 6, 2).fall(5), 29);
         due("13: 29 seats, rule 5", with(29, 9, 6, 2).fall(5), 29);
@@ -477,6 +495,8 @@ public final class PromisesTest {
         // 6 seats exactly are due to list 0: both one more and one fewer are outside.
         dueOutside(with(10, 60, 9, 9, 8, 7, 7), 1, 1, 0, 1, 1, 0, 0);
         dueOutside(with(5, 999, 1, 1, 1, 1), 0, 0, 0, 1, 1, 0, 0);
+        // 6 / 5 seats are due to list 0, and two are within.
+        dueOutside(with(3, 2, 1, 1, 1), 0, 0, 0, 0, 0, 0, 0);
         dueOutside(with(30, 2, 1), 0, 0, 0, 0, 0, 0, 2);
         dueOutside(with(5, 0, 0), 0, 0, 0, 0, 0, 0, 0);
         dueOutside(with(0, 5, 6), 0, 0, 0, 0, 0, 0, 0);
@@ -505,6 +525,7 @@ public final class PromisesTest {
                 due("15: moved(" + first + ", " + second + ")", x.moved(first, second), want[first][second]);
             }
         }
+        due("15: six lists", with(7, 340, 280, 160, 60, 15, 12).moved(0, 3), 3);
         due("15: several seats of one list", with(5, 999, 1, 1, 1, 1).moved(4, 0), 4);
         due("15: several seats of one list", with(5, 999, 1, 1, 1, 1).moved(0, 4), 4);
         due("15: no seats", with(0, 60, 3).moved(0, 4), 0);
@@ -524,6 +545,7 @@ public final class PromisesTest {
             due("16: more than half", with(3, 10, 10).majority(rule), 1);
             due("16: four of six", with(30, 999, 999, 999, 999, 999, 999).majority(rule), 4);
             due("16: three of six", with(29, 999, 999, 999, 999, 999, 999).majority(rule), 3);
+            due("16: each list counts once", with(8, 10, 10, 30, 10, 10, 10).majority(rule), 3);
             due("16: half of two lists", with(6, 1, 2, 3).majority(rule), 2);
             due("16: no seats", with(0, 1, 2, 3).majority(rule), 0);
             due("16: no votes", with(6, 0, 0).majority(rule), 0);
