@@ -296,6 +296,7 @@ public final class PromisesTest {
         dueSharesOfAllRules("9: lists without votes", with(3, 0, 5, 0, 5), 0, 2, 0, 1);
         dueSharesOfAllRules("9: no votes at all", with(5, 0, 0), 0, 0);
         dueSharesOfAllRules("9: no seats", with(0, 5, 9), 0, 0);
+        dueSharesOfAllRules("9: one seat", with(1, 3, 9, 9), 0, 1, 0);
         dueSharesOfAllRules("9: the sole vote", with(30, 0, 1), 0, 30);
         dueSharesOfAllRules("9: all that there can be", with(30, 999, 999, 999, 999, 999, 999), 5, 5, 5, 5, 5, 5);
         dueSharesOfAllRules("9: one seat short", with(29, 999, 999, 999, 999, 999, 999), 5, 5, 5, 5, 5, 4);
