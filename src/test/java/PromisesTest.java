@@ -1,4 +1,5 @@
-// Every promise of the document, by hand: ordinary inputs, the edges that it names, and wrong inputs.
+// Every promise of the document with fixed answers: ordinary inputs, the edges that it names, and wrong inputs.
+// The larger tables were worked out by a script with exact fractions, apart from the class; it is not kept here.
 public final class PromisesTest {
     private static final int BAD_ARG = -1;
     private static final int FULL = -2;
